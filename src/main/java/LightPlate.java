@@ -372,7 +372,7 @@ public final class LightPlate {
 
         /** HEAT by SETTINGS that are told; a place without a CELL has none, as it stays at 0. */
         int heat(int[] settings, int cell) {
-            int k = isDead(cell) ? stuck[cell] : settings[cell];
+            int k = stuck[cell] != NONE ? stuck[cell] : settings[cell];
             return Math.min(k, FULL_TURN - k);
         }
 

@@ -13,6 +13,7 @@ public final class ProbeTest {
         noneHeld();
         full();
         nextProbe();
+        nothingThatCanBeOff();
         Checks.end();
     }
 
@@ -161,5 +162,15 @@ public final class ProbeTest {
             held = y.held(-1);
         }
         Checks.holds("few are left: " + held, held > 0 && held < 20);
+    }
+
+    private static void nothingThatCanBeOff() {
+        LightPlate x = lanes(2);
+        for (int layer = 0; layer < 12; layer += 2) x.dies(layer, 0, 5);
+        due("all cells dead", x.probing(), 1);
+        due("next", x.next(), 0);
+        due("probe", x.probe(1, 0), x.turn(30, 1) == 0 ? 0 : 97 - x.turn(30, 1));
+        due("held", x.held(-1), 1);
+        due("the first", x.held(0), 0);
     }
 }

@@ -256,6 +256,10 @@ public final class PromiseTest {
         x.entry(1, 1, 0);
         x.entry(1, 2, 1);
         due("columns that are changed", x.right(), 1);
+        LightPlate first = lanes(2);
+        first.entry(0, 0, 2);
+        first.entry(1, 1, 1);
+        due("only the first column is not of 1", first.right(), 0);
         LightPlate y = lanes(2);
         y.entry(0, 0, 1);
         y.entry(0, 1, 22);
@@ -367,6 +371,16 @@ public final class PromiseTest {
         z.split();
         due("undo of fifteen", z.undo(), -4);
         Checks.same("works stay", Checks.works(z), "1:3");
+        LightPlate least = triangle(6, 95);
+        least.split();
+        due("undo of fifteen by 1", least.undo(), -4);
+        LightPlate few = lanes(6);
+        Checks.program(few, "s 0;s 1;s 2");
+        few.set(1, 3, 95);
+        few.take();
+        few.split();
+        due("undo of one of fifteen steps", few.undo(), 1);
+        Checks.same("nothing of the works ahead is left", Checks.works(few), "3:95");
     }
 
     private static void work() {
@@ -465,7 +479,7 @@ public final class PromiseTest {
 
     private static void count() {
         LightPlate x = lanes(6);
-        x.set(0, 0, 3);
+        x.set(0, 0, 1);
         x.set(0, 2, 3);
         x.set(3, 1, 0);
         x.dies(4, 0, 0);

@@ -10,6 +10,7 @@ public final class RunTest {
         warmthByThese();
         knownByTicks();
         since();
+        sinceLooksAtEachLane();
         found();
         Checks.end();
     }
@@ -125,6 +126,19 @@ public final class RunTest {
         due("the later ticks are as before", x.since(), 4);
         x.found(0, 0, 0, 3);
         due("the earlier one again", x.since(), 3);
+    }
+
+    private static void sinceLooksAtEachLane() {
+        for (int n = 2; n <= 6; n++) {
+            LightPlate x = lanes(n);
+            x.offset(n % 2, n - 2, 8);
+            long last = 1;
+            for (int lane = 0; lane < n - 1; lane++) last *= 97;
+            x.run(last);
+            due("the last lanes of " + n, x.since(), 0);
+            x.found(n % 2, n - 2, 8, 0);
+            due("known, of " + n, x.since(), -5);
+        }
     }
 
     private static void found() {
