@@ -726,7 +726,6 @@ public final class LightPlate {
             depth = 0;
             unknownName = NONE;
             level[0].clear();
-            Arrays.fill(opener, 0);
             for (int name = 0; name < NAMES; name++) isTold[name] = false;
             boolean whole = readStatements();
             size = 0;
