@@ -766,18 +766,21 @@ public final class LightPlate {
             return true;
         }
 
-        /** A blank and a number; NONE if no PROGRAM can go on so. */
+        /** A blank and a number; NONE if no PROGRAM can go on so: place is then the first byte that can't be. */
         private int readNumber(int most) {
-            if (!takes(' ') || !isDigit(peek())) return NONE;
-            int number = peek() - '0';
+            if (!takes(' ')) return NONE;
+            int number = digitUpTo(most);
+            if (number <= 0 || !isDigit(peek())) return number;
+            int second = digitUpTo(most - 10 * number);
+            return second == NONE ? NONE : 10 * number + second;
+        }
+
+        /** A digit that is not above most; NONE if the next byte is none such. */
+        private int digitUpTo(int most) {
+            int b = peek();
+            if (!isDigit(b) || b - '0' > most) return NONE;
             place++;
-            if (number > 0 && isDigit(peek())) {
-                number = 10 * number + peek() - '0';
-                place++;
-            }
-            if (number <= most) return number;
-            place--;
-            return NONE;
+            return b - '0';
         }
 
         private boolean readName(int name) {

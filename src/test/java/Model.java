@@ -2,7 +2,6 @@ import java.util.ArrayList;
 import java.util.HashSet;
 import java.util.List;
 import java.util.Set;
-import java.util.regex.Matcher;
 import java.util.regex.Pattern;
 
 /**
@@ -338,20 +337,23 @@ final class Model {
 
     // ---- PROGRAMS
 
-    private static final String NUMBER = "(?:0|[1-9][0-9]?)";
-    private static final Pattern SIMPLE =
-            Pattern.compile("(?:[tu] " + NUMBER + " " + NUMBER + "|s " + NUMBER + "|[a-f])");
+    private static final String TURN = "(?:[1-8][0-9]|9[0-5]|[0-9])(?![0-9])";
     private static final Pattern GROUP = Pattern.compile("(?:[0-9]|[a-f]=)\\((?:S|[a-f])(?:;(?:S|[a-f]))*\\)");
     private static final Pattern WHOLE = Pattern.compile("(?:S|[a-f])(?:;(?:S|[a-f]))*");
     private static final String[] ENDS = {
-        "", "0", "0 0", " 0", " 0 0", "a", "(a", "=(a", " 0 0"
+        "", "0", "0 0", " 0", " 0 0", "a", "(a", "=(a"
     };
 
-    /** Whether a text is a PROGRAM, numbers of any size let through: groups are replaced from the inside out. */
-    static boolean isProgram(String text) {
+    /** TURNS as they are written: i has one digit always. */
+    private Pattern simple() {
+        String lane = "[0-" + (n - 2) + "](?![0-9])";
+        return Pattern.compile("[tu] " + lane + " " + TURN + "|s " + lane);
+    }
+
+    /** Whether a text is a PROGRAM: groups are replaced from the inside out. */
+    boolean isProgram(String text) {
         if (text.indexOf('S') >= 0) return false;
-        String t = Pattern.compile("[tu] " + NUMBER + " " + NUMBER + "(?![0-9])|s " + NUMBER + "(?![0-9])")
-                .matcher(text).replaceAll("S");
+        String t = simple().matcher(text).replaceAll("S");
         String before = "";
         while (!t.equals(before)) {
             before = t;
@@ -361,7 +363,7 @@ final class Model {
     }
 
     /** Whether some PROGRAM begins with the text: the text is ended in all ways that can matter. */
-    static boolean canGoOn(String text) {
+    boolean canGoOn(String text) {
         int open = 0;
         for (char c : text.toCharArray()) open += c == '(' ? 1 : c == ')' ? -1 : 0;
         for (String end : ENDS) {
@@ -374,21 +376,10 @@ final class Model {
     }
 
     private int faultOfForm(String text) {
-        int place = text.length();
         for (int p = 0; p < text.length(); p++) {
-            if (!canGoOn(text.substring(0, p + 1))) {
-                place = p;
-                break;
-            }
+            if (!canGoOn(text.substring(0, p + 1))) return p;
         }
-        boolean fault = place < text.length() || !isProgram(text);
-        // a number ends where it is followed by something else, or by the byte with which it can't go on
-        Matcher m = Pattern.compile("([tsu])( " + NUMBER + ")( " + NUMBER + ")?").matcher(text.substring(0, place));
-        while (m.find()) {
-            if (Integer.parseInt(m.group(2).substring(1)) > n - 2) return m.end(2) - 1;
-            if (m.group(3) != null && Integer.parseInt(m.group(3).substring(1)) > 95) return m.end(3) - 1;
-        }
-        return fault ? place : -1;
+        return isProgram(text) ? -1 : text.length();
     }
 
     private int faultOfNames(String text) {
@@ -424,7 +415,7 @@ final class Model {
     private List<int[]> expandOne(String one, List<List<int[]>> names) {
         List<int[]> row = new ArrayList<>();
         char c = one.charAt(0);
-        if (SIMPLE.matcher(one).matches() && one.length() > 1) {
+        if (simple().matcher(one).matches()) {
             String[] parts = one.split(" ");
             int k = parts.length > 2 ? Integer.parseInt(parts[2]) : 24;
             row.add(new int[] {Integer.parseInt(parts[1]), c == 'u' ? (96 - k) % 96 : k});

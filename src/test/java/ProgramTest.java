@@ -99,9 +99,18 @@ public final class ProgramTest {
 
     private static void numbers() {
         fault("t 5 5", -1002);
-        fault("t 50 5", -1003);
+        fault("t 50 5", -1002);
+        fault("t 52", -1002);
+        fault("t 5", -1002);
         fault("t 12 5", -1003);
+        fault("t 12", -1003);
+        fault("t 40 5", -1003);
         fault("t 123 5", -1003);
+        fault("s 99", -1002);
+        fault("s 49", -1003);
+        fault("u 61 5", -1002);
+        fault("2(s 70)", -1004);
+        fault("t 50 99", -1002);
         fault("t 0 96", -1005);
         fault("t 0 99;x", -1005);
         fault("t 0 100", -1006);
@@ -114,6 +123,10 @@ public final class ProgramTest {
         fault("s 5", -1002);
         fault("t 9", -1002);
         LightPlate x = new LightPlate(0);
+        Checks.due("52 of 2 lanes", Checks.program(x, "t 52"), -1002);
+        Checks.due("12 of 2 lanes", Checks.program(x, "t 12"), -1002);
+        Checks.due("12 of 3 lanes", Checks.program(new LightPlate(1), "t 12"), -1003);
+        Checks.due("22 of 3 lanes", Checks.program(new LightPlate(1), "t 22"), -1002);
         Checks.due("lane 1 of 2 lanes", Checks.program(x, "s 1"), -1002);
         Checks.due("lane 0 of 2 lanes", Checks.program(x, "s 0"), 1);
     }

@@ -49,7 +49,7 @@ final class Texts {
     }
 
     private int lane() {
-        return dice.nextInt(40) == 0 ? dice.nextInt(12) : dice.nextInt(lanes - 1);
+        return dice.nextInt(40) == 0 ? dice.nextInt(dice.nextBoolean() ? 12 : 100) : dice.nextInt(lanes - 1);
     }
 
     private int turn() {
