@@ -10,6 +10,7 @@ public final class ProgramTest {
         names();
         form();
         numbers();
+        allNumbers();
         ends();
         nameFaults();
         tooMany();
@@ -129,6 +130,23 @@ public final class ProgramTest {
         Checks.due("22 of 3 lanes", Checks.program(new LightPlate(1), "t 22"), -1002);
         Checks.due("lane 1 of 2 lanes", Checks.program(x, "s 1"), -1002);
         Checks.due("lane 0 of 2 lanes", Checks.program(x, "s 0"), 1);
+    }
+
+    /** Every number as i and as k, for each number of LANES: it is fine, or its first digit is and its second isn't. */
+    private static void allNumbers() {
+        for (int n = 2; n <= 6; n++) {
+            for (int number = 0; number < 100; number++) {
+                int most = n - 2;
+                int first = number < 10 ? number : number / 10;
+                int want = number <= most ? 1 : first <= most ? -1003 : -1002;
+                String who = n + " lanes, number " + number + " of ";
+                Checks.due(who + "s", Checks.program(new LightPlate(n - 2), "s " + number), want);
+                Checks.due(who + "t", Checks.program(new LightPlate(n - 2), "t " + number + " 0"), want);
+                Checks.due(who + "u", Checks.program(new LightPlate(n - 2), "u " + number + " 95"), want);
+                int turn = number <= 95 ? 1 : -1005;
+                Checks.due(who + "a turn", Checks.program(new LightPlate(n - 2), "t 0 " + number), turn);
+            }
+        }
     }
 
     private static void ends() {
