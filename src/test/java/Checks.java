@@ -4,6 +4,7 @@ import java.nio.charset.StandardCharsets;
 final class Checks {
     private static int asked = 0;
     private static int wrong = 0;
+    private static String sentence = "";
 
     private Checks() {
     }
@@ -12,7 +13,12 @@ final class Checks {
         asked++;
         if (got == want) return;
         wrong++;
-        if (wrong <= 50) System.out.println(what + " answered " + got + ", due is " + want);
+        if (wrong <= 50) System.out.println(sentence + what + " answered " + got + ", due is " + want);
+    }
+
+    /** The document's sentence that the answers from here on are about; told with those that are wrong. */
+    static void sentence(int promise, String words) {
+        sentence = "promise " + promise + ", \"" + words + "\": ";
     }
 
     static void holds(String what, boolean so) {
@@ -52,13 +58,13 @@ final class Checks {
         return text.toString();
     }
 
-    /** The SETTINGS above 0 as text: "layer,lane=turn ..". */
+    /** The SETTINGS other than 0 as text: "layer,lane=turn ..". */
     static String settings(LightPlate x) {
         StringBuilder text = new StringBuilder();
         for (int layer = 0; layer < 12; layer++) {
             for (int i = layer % 2; i < x.count(0) - 1; i += 2) {
                 int k = x.cell(layer, i, 0);
-                if (k > 0) text.append(layer).append(',').append(i).append('=').append(k).append(' ');
+                if (k != 0) text.append(layer).append(',').append(i).append('=').append(k).append(' ');
             }
         }
         return text.toString().trim();
