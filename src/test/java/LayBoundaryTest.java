@@ -22,14 +22,11 @@ public final class LayBoundaryTest {
     }
 
     private static LightPlate of(int n, String program) {
-        LightPlate x = new LightPlate(n - 2);
-        Checks.program(x, program);
-        return x;
+        return LayTest.lanes(n, program);
     }
 
     private static void laid(String what, LightPlate x, int fewest, String settings) {
-        Checks.due(what, x.lay(), fewest);
-        Checks.same(what, Checks.settings(x), settings);
+        LayTest.laid(what, x, fewest, settings);
     }
 
     private static void noWorks() {
@@ -64,7 +61,8 @@ public final class LayBoundaryTest {
     }
 
     private static void order() {
-        Checks.sentence(15, "WORKS that have a LANE in common stay in their order (an earlier one in an earlier LAYER)");
+        Checks.sentence(15, "WORKS that have a LANE in common stay in their order (an earlier one in an earlier "
+                + "LAYER)");
         laid("the same lanes", of(4, "t 0 1;t 0 2"), 3, "0,0=1 2,0=2");
         laid("the lower lane in common", of(4, "t 0 1;t 1 2"), 2, "0,0=1 1,1=2");
         laid("the upper lane in common", of(4, "t 1 1;t 0 2"), 3, "1,1=1 2,0=2");

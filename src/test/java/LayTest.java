@@ -19,13 +19,13 @@ public final class LayTest {
         Checks.end();
     }
 
-    private static LightPlate lanes(int n, String program) {
+    static LightPlate lanes(int n, String program) {
         LightPlate x = new LightPlate(n - 2);
         Checks.program(x, program);
         return x;
     }
 
-    private static void laid(String what, LightPlate x, int fewest, String settings) {
+    static void laid(String what, LightPlate x, int fewest, String settings) {
         Checks.due(what, x.lay(), fewest);
         Checks.same(what, Checks.settings(x), settings);
     }

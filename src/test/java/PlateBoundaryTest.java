@@ -4,10 +4,6 @@ import java.util.function.Supplier;
 public final class PlateBoundaryTest {
     private static final int MIN = Integer.MIN_VALUE;
     private static final int MAX = Integer.MAX_VALUE;
-    /** LAYER and LANE where no CELL is, whatever the number of LANES. */
-    private static final int[][] NO_CELLS = {{-1, 0}, {-1, 1}, {-2, 0}, {12, 0}, {13, 1}, {0, -1}, {0, -2}, {1, -1},
-        {0, 1}, {1, 0}, {10, 1}, {11, 0}, {0, 6}, {1, 5}, {0, 5}, {1, 6}, {MIN, 0}, {MAX, 1}, {0, MIN}, {0, MAX},
-        {1, MAX}, {MAX, MAX}, {MIN, MIN}};
 
     private PlateBoundaryTest() {
     }
@@ -33,11 +29,6 @@ public final class PlateBoundaryTest {
         tableWraps();
         firstAndLastLayer();
         Checks.end();
-    }
-
-    /** Calls that name no CELL, in an empty and in a busy plate. */
-    static int[][] noCells() {
-        return NO_CELLS.clone();
     }
 
     private static void due(String what, long got, long want) {
@@ -84,7 +75,8 @@ public final class PlateBoundaryTest {
             int cells = 0;
             for (int layer = -3; layer <= 15; layer++) {
                 for (int i = -3; i <= 9; i++) {
-                    boolean there = layer >= 0 && layer <= 11 && i >= 0 && i + 1 < n && (layer % 2 == 1) == (i % 2 == 1);
+                    boolean inside = layer >= 0 && layer <= 11 && i >= 0 && i + 1 < n;
+                    boolean there = inside && layer % 2 == i % 2;
                     int was = x.set(layer, i, 0);
                     due(n + " lanes, cell " + layer + "," + i, was, there ? 0 : -1);
                     if (was == 0) cells++;
@@ -133,7 +125,7 @@ public final class PlateBoundaryTest {
             Whole.refused("set " + k, Scenes.busy(3), y -> y.set(0, 0, k), -2);
         }
         Checks.sentence(3, "NONE, ahead of BAD");
-        for (int[] at : NO_CELLS) {
+        for (int[] at : Scenes.noCells()) {
             Whole.refused("set at " + at[0] + "," + at[1], Scenes.busy(6), y -> y.set(at[0], at[1], 5), -1);
             due("set BAD at " + at[0] + "," + at[1], of(6).set(at[0], at[1], 96), -1);
         }
@@ -179,7 +171,7 @@ public final class PlateBoundaryTest {
             Whole.refused("a dead one at " + k, Scenes.busy(3), y -> y.dies(4, 0, k), -2);
         }
         Checks.sentence(4, "NONE, ahead of BAD");
-        for (int[] at : NO_CELLS) {
+        for (int[] at : Scenes.noCells()) {
             Whole.refused("dies at " + at[0] + "," + at[1], Scenes.busy(6), y -> y.dies(at[0], at[1], 5), -1);
             due("dies BAD at " + at[0] + "," + at[1], of(6).dies(at[0], at[1], -1), -1);
         }
@@ -233,7 +225,7 @@ public final class PlateBoundaryTest {
         y.dies(11, 1, 95);
         due("stuck at 95", y.mend(11, 1), 95);
         Checks.sentence(5, "NONE, ahead of STATE");
-        for (int[] at : NO_CELLS) {
+        for (int[] at : Scenes.noCells()) {
             Whole.refused("mend at " + at[0] + "," + at[1], Scenes.busy(6), x -> x.mend(at[0], at[1]), -1);
         }
     }
@@ -251,7 +243,7 @@ public final class PlateBoundaryTest {
         for (int what : new int[] {-1, 5, 6, MIN, MAX}) {
             Whole.refused("cell what " + what, Scenes.busy(3), y -> y.cell(0, 0, what), -1);
         }
-        for (int[] at : NO_CELLS) {
+        for (int[] at : Scenes.noCells()) {
             for (int what = -1; what <= 5; what++) {
                 due("cell at " + at[0] + "," + at[1] + " what " + what, of(6).cell(at[0], at[1], what), -1);
             }
@@ -317,7 +309,7 @@ public final class PlateBoundaryTest {
     }
 
     private static void trueTurnsWrap() {
-        Checks.sentence(6, "TRUE TURN: .. and its OFFSET (0 at first; -8 .. 8), modulo 96; a DEAD one's: its stuck TURN");
+        Checks.sentence(6, "TRUE TURN: .. and its OFFSET, modulo 96; a DEAD one's: its stuck TURN");
         int[][] cases = {{95, 0, 95}, {95, 1, 0}, {95, 8, 7}, {88, 8, 0}, {87, 8, 95}, {0, -1, 95}, {0, -8, 88},
             {8, -8, 0}, {7, -8, 95}, {0, 0, 0}, {0, 8, 8}};
         for (int[] c : cases) {

@@ -80,6 +80,8 @@ public final class ProbeBoundaryTest {
         due("begun anew with fewer", fewer.probing(), 21);
         due("the last", fewer.held(20), 20);
         due("none of those ahead", fewer.held(21), -1);
+        fewer.probe(0, 1);
+        due("none is off", fewer.held(-1), 1);
     }
 
     /** Of two LANES only the first CELL lives, so HYPOTHESES are 0 and -2, -1, 1, 2 of it. */

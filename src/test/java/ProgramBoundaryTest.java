@@ -253,8 +253,9 @@ public final class ProgramBoundaryTest {
         for (int size = 0; size <= text.length(); size++) {
             LightPlate x = new LightPlate(4);
             int answer = Checks.program(x, text.substring(0, size));
-            if (whole.contains(" " + size + " ")) Checks.holds("of " + size + " bytes: " + answer, answer > -1000 || answer <= -2000);
-            else due("of " + size + " bytes", answer, -1000 - size);
+            boolean isWhole = whole.contains(" " + size + " ");
+            if (!isWhole) due("of " + size + " bytes", answer, -1000 - size);
+            else Checks.holds("of " + size + " bytes: " + answer, answer > -1000 || answer <= -2000);
         }
     }
 

@@ -18,7 +18,7 @@ public final class RunBoundaryTest {
         reworkedRefusals();
         reworkedWraps();
         sinceFirstAndLast();
-        sinceByOneLane();
+        sinceByEachLane();
         foundBounds();
         foundTicks();
         foundFull();
@@ -65,7 +65,7 @@ public final class RunBoundaryTest {
             Whole.refused("offset " + n, Scenes.busy(3), y -> y.offset(0, 0, n), -2);
         }
         Checks.sentence(19, "NONE, ahead of BAD");
-        for (int[] at : PlateBoundaryTest.noCells()) {
+        for (int[] at : Scenes.noCells()) {
             Whole.refused("offset at " + at[0] + "," + at[1], Scenes.busy(6), y -> y.offset(at[0], at[1], 1), -1);
             due("offset BAD at " + at[0] + "," + at[1], of(6).offset(at[0], at[1], 9), -1);
         }
@@ -204,26 +204,29 @@ public final class RunBoundaryTest {
         due("forty, none off", y.since(), -5);
     }
 
-    /** TURNS 20 and 28 have one S, 92 and 4 one C: by OFFSET 8 the light out is another in one LANE alone. */
-    private static void sinceByOneLane() {
+    private static void sinceByEachLane() {
         Checks.sentence(23, "whose light out is not what it comes to: in any LANE");
         for (int n = 2; n <= 6; n++) {
             for (int i = 0; i <= n - 2; i++) {
-                for (int setting : new int[] {20, 92}) {
-                    int off = setting == 20 ? i : i + 1;
-                    LightPlate x = of(n);
-                    x.set(i % 2, i, setting);
-                    x.offset(i % 2, i, 8);
-                    x.run(power(i));
-                    for (int lane = 0; lane < n; lane++) {
-                        Checks.holds("lane " + lane + " if " + off + " is off", (x.out(0, lane) != x.reworked(0, lane)) == (lane == off));
-                    }
-                    due(n + " lanes, lane " + off + " alone is off", x.since(), 0);
-                    x.found(i % 2, i, 8, 0);
-                    due("it is known", x.since(), -5);
-                }
+                sinceByOneLane(n, i, 20, i);
+                sinceByOneLane(n, i, 92, i + 1);
             }
         }
+    }
+
+    /** TURNS 20 and 28 have one S, 92 and 4 one C: by OFFSET 8 the light out is another in one LANE alone. */
+    private static void sinceByOneLane(int n, int i, int setting, int off) {
+        LightPlate x = of(n);
+        x.set(i % 2, i, setting);
+        x.offset(i % 2, i, 8);
+        x.run(power(i));
+        for (int lane = 0; lane < n; lane++) {
+            boolean another = x.out(0, lane) != x.reworked(0, lane);
+            Checks.holds(n + " lanes, " + off + " is off, lane " + lane, another == (lane == off));
+        }
+        due(n + " lanes, lane " + off + " alone is off", x.since(), 0);
+        x.found(i % 2, i, 8, 0);
+        due("it is known", x.since(), -5);
     }
 
     private static void foundBounds() {
@@ -236,7 +239,7 @@ public final class RunBoundaryTest {
             Whole.refused("found " + n, Scenes.busy(3), y -> y.found(0, 0, n, 0), -2);
         }
         Checks.sentence(24, "NONE, ahead of BAD");
-        for (int[] at : PlateBoundaryTest.noCells()) {
+        for (int[] at : Scenes.noCells()) {
             Whole.refused("found at " + at[0] + "," + at[1], Scenes.busy(6), y -> y.found(at[0], at[1], 1, 0), -1);
             due("found BAD at " + at[0] + "," + at[1], of(6).found(at[0], at[1], 9, 9), -1);
         }

@@ -2,6 +2,9 @@ import java.util.function.Supplier;
 
 /** Objects to begin with, each made anew by the same calls whenever it is asked for. */
 final class Scenes {
+    private static final int MIN = Integer.MIN_VALUE;
+    private static final int MAX = Integer.MAX_VALUE;
+
     private Scenes() {
     }
 
@@ -60,5 +63,12 @@ final class Scenes {
         x.claim(0, 2, 0);
         Checks.feed(x, "s 0;".repeat(24) + "t 0 ");
         return x;
+    }
+
+    /** LAYER and LANE where no CELL is, whatever the number of LANES. */
+    static int[][] noCells() {
+        return new int[][] {{-1, 0}, {-1, 1}, {-2, 0}, {12, 0}, {13, 1}, {0, -1}, {0, -2}, {1, -1},
+            {0, 1}, {1, 0}, {10, 1}, {11, 0}, {0, 6}, {1, 5}, {0, 5}, {1, 6}, {MIN, 0}, {MAX, 1}, {0, MIN}, {0, MAX},
+            {1, MAX}, {MAX, MAX}, {MIN, MIN}};
     }
 }

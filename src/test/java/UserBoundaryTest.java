@@ -46,7 +46,7 @@ public final class UserBoundaryTest {
 
     private static void claimCells() {
         Checks.sentence(29, "-5: there is no such CELL");
-        for (int[] at : PlateBoundaryTest.noCells()) {
+        for (int[] at : Scenes.noCells()) {
             for (int user = -2; user <= 2; user++) {
                 due("by " + user + " at " + at[0] + "," + at[1], of(6).claim(user, at[0], at[1]), -5);
             }
