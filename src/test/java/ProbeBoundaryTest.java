@@ -22,6 +22,7 @@ public final class ProbeBoundaryTest {
         nextOfOne();
         nextOfSeveral();
         nextBehindTheFirstLane();
+        nextBegunAnewWithFewer();
         Checks.end();
     }
 
@@ -272,6 +273,16 @@ public final class ProbeBoundaryTest {
         due("by C", x.next(), 10);
         x.set(2, 0, 0);
         due("by S", x.next(), 11);
+    }
+
+    /** What was HELD in a PROBING with more HYPOTHESES must not be counted in one with fewer. */
+    private static void nextBegunAnewWithFewer() {
+        Checks.sentence(28, "parts those that are HELD: since THE PROBING began");
+        LightPlate x = of(2);
+        due("hypotheses", x.probing(), 25);
+        for (int layer = 2; layer < 12; layer += 2) x.dies(layer, 0, 0);
+        due("hypotheses then", x.probing(), 5);
+        due("C of -2 and 2 is one: by S", x.next(), 1);
     }
 
     private static void nextOfSeveral() {
