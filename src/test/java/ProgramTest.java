@@ -60,6 +60,7 @@ public final class ProgramTest {
         means("a=(s 0);a=(a;a);a=(a;a);a", "0:24 0:24 0:24 0:24");
         means("a=(b=(s 3);b);b;a", "3:24 3:24");
         means("0(a=(s 1));a", "1:24");
+        means("a=(s 0);2(a;a=(s 1))", "0:24 0:24");
         means("a=(9(9(s 0)));s 1", "1:24");
         means("a=(9(9(s 0)));0(a);s 1", "1:24");
     }
